@@ -26,6 +26,17 @@ public final class Promise04DropTest {
         checks.due("label of the new one", m.state(7), 1);
         checks.due("the first is as it was", Programs.finish(m, 0), 1);
         checks.due("and its result too", m.result(0), 3);
+        theLastOne(checks);
         checks.end();
+    }
+
+    private static void theLastOne(Checks checks) {
+        StackMachine m = new StackMachine();
+        for (int i = 0; i < 39; i++) Programs.write(m, 0, 0, 0);
+        m.function(0, 0, 0);
+        checks.due("function 39 is given up", m.drop(), true);
+        checks.due("39 are left", m.state(5), 39);
+        checks.due("it can be begun again", m.function(0, 0, 0), 39);
+        checks.due("just so many instructions", m.state(6), 39);
     }
 }

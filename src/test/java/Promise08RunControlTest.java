@@ -136,6 +136,7 @@ public final class Promise08RunControlTest {
         for (int c = 0; c <= 1; c++) {
             checks.due("IF without ELSE", Programs.valueOf(op(65, 7), op(65, c), op(4, 1, 1), op(65, 3), op(106), op(11)), c == 1 ? 10 : 7);
             checks.due("IF with ELSE", Programs.valueOf(op(65, 7), op(65, 2), op(65, c), op(4, 2, 1), op(107), op(5), op(108), op(11)), c == 1 ? 5 : 14);
+            checks.due("what is behind the END is done", Programs.valueOf(op(65, c), op(4, 0, 1), op(65, 1), op(5), op(65, 3), op(11), op(65, 10), op(106)), c == 1 ? 11 : 13);
             checks.due("branch out of IF", Programs.valueOf(op(65, c), op(4, 0, 1), op(65, 1), op(65, 2), op(12, 0), op(5), op(65, 3), op(12, 0), op(11)), c == 1 ? 2 : 3);
         }
     }
@@ -252,6 +253,22 @@ public final class Promise08RunControlTest {
                 op(65, 100), op(72), op(13, 0), op(11));
         checks.due("100 calls", Programs.finish(m, many), 900);
         checks.due("ended", m.state(0), 2);
+        allAtOnce();
+    }
+
+    /** Thirty frames, one in the other, that all end with the innermost one's last step. */
+    private static void allAtOnce() {
+        StackMachine m = new StackMachine();
+        int f = Programs.write(m, 1, 1, 0, op(32, 0), op(65, 1), op(107), op(34, 0), op(4, 0, 1),
+                op(32, 0), op(16, 0), op(5), op(65, 77), op(11));
+        Programs.call(m, f, 30);
+        checks.due("all but the last step", m.run(29 * 7 + 5), 29 * 7 + 5);
+        checks.due("30 frames", m.state(2), 30);
+        checks.due("the last step", m.run(2), 1);
+        checks.due("ended", m.state(0), 2);
+        checks.due("the result goes through all", m.result(0), 77);
+        Programs.finish(m, f, 31);
+        checks.due("one frame too many", m.state(0), 4);
     }
 
     private static void values() {
@@ -270,6 +287,22 @@ public final class Promise08RunControlTest {
         Programs.call(n, g, 0);
         checks.due("run", n.run(2000), 18 * 6);
         checks.due("exhausted", n.state(0), 4);
+        // Frames that are gone, of this call or of one before, ask for nothing more.
+        int wide = Programs.write(n, 0, 0, 8, op(65, 1), op(26));
+        int caller = Programs.write(n, 0, 0, 8, repeated(op(16, wide), 40));
+        for (int i = 0; i < 30; i++) {
+            Programs.call(n, caller);
+            n.run(1);
+            checks.due("two frames", n.state(2), 2);
+        }
+        checks.due("forty calls, one behind the other", n.run(2000), 40 * 3 - 1);
+        checks.due("ended", n.state(0), 2);
+    }
+
+    private static int[][] repeated(int[] instruction, int times) {
+        int[][] code = new int[times][];
+        for (int i = 0; i < times; i++) code[i] = instruction;
+        return code;
     }
 
     private static void endsWithTheStepAhead() {

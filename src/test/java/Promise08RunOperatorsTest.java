@@ -168,9 +168,11 @@ public final class Promise08RunOperatorsTest {
             Programs.finish(m, f, 64 - size);
             checks.due("store at the end", m.state(0), 2);
             checks.due("last byte", m.memory(63), 255);
-            checks.due("byte ahead", m.memory(63 - size), size == 64 ? -1 : 0);
+            checks.due("byte ahead", m.memory(63 - size), 0);
             Programs.finish(m, f, -1);
             checks.due("store at -1", m.state(0), 3);
+            checks.due("store by -1", Programs.trapOf(op(65, 1), op(65, 0), op(store[0], -1)), 4);
+            checks.due("store by least", Programs.trapOf(op(65, 0x80000000), op(65, 0), op(store[0], 0x80000000)), 4);
         }
     }
 
