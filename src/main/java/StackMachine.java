@@ -436,8 +436,9 @@ public final class StackMachine {
             operands = over.height;
             label = over.outer;
             labels--;
-            put(over.results);
+            // Behind the function's own label there is none that could have its results.
             if (label == null) flatten();
+            else put(over.results);
             return true;
         }
 

@@ -97,7 +97,6 @@ final class Model {
         written.code.add(new int[] {operation, a, b});
         int together = 0;
         for (Lab l : labels) together += l.own;
-        if (labels.isEmpty()) together = written.results;
         written.most = Math.max(written.most, together);
         if (labels.isEmpty()) {
             written.whole = true;

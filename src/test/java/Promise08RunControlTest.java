@@ -297,6 +297,22 @@ public final class Promise08RunControlTest {
         }
         checks.due("forty calls, one behind the other", n.run(2000), 40 * 3 - 1);
         checks.due("ended", n.state(0), 2);
+        resultsThatNeverCome();
+    }
+
+    /** A function that never has its results asks for no room for them. */
+    private static void resultsThatNeverCome() {
+        for (int operands = 212; operands <= 213; operands++) {
+            StackMachine m = new StackMachine();
+            int trapping = Programs.write(m, 0, 8, 0, op(0));
+            m.function(0, 0, 0);
+            Programs.add(m, repeated(op(65), operands));
+            Programs.add(m, op(16, trapping), op(15), op(11));
+            boolean fits = operands == 212;
+            checks.due("the caller's operands and the results", m.look(1, 3), operands + 8);
+            checks.due("steps", Programs.finish(m, 1), fits ? 214 : 0);
+            checks.due("the called one fits too, and traps", m.state(0), fits ? 3 : 4);
+        }
     }
 
     private static int[][] repeated(int[] instruction, int times) {

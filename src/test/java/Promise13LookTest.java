@@ -49,7 +49,14 @@ public final class Promise13LookTest {
         most("by the end of a dead label", 0, 5, op(65), op(2, 0, 4), op(0), op(11), op(15));
         most("in a dead label, what it has", 0, 2, op(0), op(65), op(65), op(106), op(26));
         most("in a dead label, what it asks for", 0, 1, op(0), op(27), op(26));
-        most("the results that a dead function's end puts", 5, 5, op(0));
+        most("not the results that a dead function's end asks for", 1, 0, op(0));
+        most("nor so many as there can be", 8, 0, op(0));
+        most("but what it has there", 8, 2, op(0), op(65), op(65));
+        most("or had before", 1, 3, op(65), op(65), op(65), op(0));
+        most("nor those of a branch in dead code", 8, 0, op(0), op(12, 0));
+        most("nor those that the entries of a dead table want", 8, 0, op(0), op(14, 0), op(6, 0));
+        most("a dead label's results in a label round it, dead too", 8, 4, op(0), op(2, 0, 4), op(0), op(11));
+        most("the results of a function that is not dead at its end", 2, 2, op(65), op(65));
         most("in one arm", 0, 3, op(65), op(4, 0, 0), op(1), op(5), op(65), op(65), op(65), op(15), op(11));
     }
 }
