@@ -814,10 +814,9 @@ public final class StackMachine {
         }
 
         private void step() {
-            if (depth <= 0 || depth > frames.length) return;
-            Frame frame = frames[depth - 1];
+            Frame frame = innermost();
+            if (frame == null || frame.at == null) return;
             Instruction x = frame.at;
-            if (x == null) return;
             frame.at = x.next;
             if (x.operation < DISCARD) control(frame, x);
             else if (x.operation < FIRST_LOAD) move(frame, x);
@@ -827,6 +826,11 @@ public final class StackMachine {
             else if (Operations.takenBy(x.operation) == 2) computeOfTwo(x.operation);
             else computeOfOne(x.operation);
             leaveWhatIsOver();
+        }
+
+        /** Null when there is no frame. */
+        private Frame innermost() {
+            return depth > 0 && depth <= frames.length ? frames[depth - 1] : null;
         }
 
         private void enter(Function callee) {
@@ -845,9 +849,9 @@ public final class StackMachine {
 
         /** Ends are no steps: each frame at its function's end goes with the step ahead. */
         private void leaveWhatIsOver() {
-            for (int i = 0; i < MOST_FRAMES && isGoing() && depth > 0; i++) {
-                Frame frame = frames[depth - 1];
-                if (frame.at != null || frame.function == null) return;
+            for (int i = 0; i < MOST_FRAMES && isGoing(); i++) {
+                Frame frame = innermost();
+                if (frame == null || frame.at != null || frame.function == null) return;
                 values.keep(frame.function.results, frame.base);
                 asked -= frame.function.room();
                 depth--;

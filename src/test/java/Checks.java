@@ -1,18 +1,35 @@
 /** Counts the answers of one test that are not as due, and ends the program by them. */
 final class Checks {
     private final String name;
+    private String sentence = "";
     private int made;
+    private int madeAhead;
     private int wrong;
 
     Checks(String name) {
         this.name = name;
     }
 
+    /** The document's words by which the answers that follow are due. */
+    void sentence(String words) {
+        wantAnswers();
+        sentence = " [" + words + "]";
+    }
+
     void due(String what, long got, long want) {
         made++;
         if (got == want) return;
         wrong++;
-        System.out.println(name + ": " + what + " answered " + got + ", due is " + want);
+        System.out.println(name + ": " + what + " answered " + got + ", due is " + want + sentence);
+    }
+
+    /** A sentence that no answer was asked for is not tested. */
+    private void wantAnswers() {
+        if (!sentence.isEmpty() && made == madeAhead) {
+            wrong++;
+            System.out.println(name + ": no answer was asked for" + sentence);
+        }
+        madeAhead = made;
     }
 
     void due(String what, boolean got, boolean want) {
@@ -32,6 +49,7 @@ final class Checks {
     }
 
     void end() {
+        wantAnswers();
         System.out.println(name + ": " + made + " answers, " + wrong + " not as due");
         if (wrong != 0 || made == 0) System.exit(1);
     }
